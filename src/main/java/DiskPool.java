@@ -628,6 +628,10 @@ public final class DiskPool {
             return tags[disk * offsets + offset];
         }
 
+        void copyTo(long[] words, int at, int disk, int offset) {
+            System.arraycopy(bytes, WORDS * (disk * offsets + offset), words, at, WORDS);
+        }
+
         void addTo(long[] words, int at, int disk, int offset) {
             int from = WORDS * (disk * offsets + offset);
             for (int i = 0; i < WORDS; i++) {
@@ -856,25 +860,27 @@ public final class DiskPool {
             return count;
         }
 
-        /** Xors to the words the cell of a spot itself, or all others of its stripe. */
-        private void addCells(int spot, boolean itself, long[] words, int at) {
+        private void addOthers(int spot, long[] words, int at) {
             int row = layout.rowOf(spot);
             int last = layout.paritySpotBeside(spot);
             for (int other = layout.firstSpotBeside(spot); other <= last; other++) {
-                if ((other == spot) == itself && places[other] != NONE) {
+                if (other != spot && places[other] != NONE) {
                     rack.addTo(words, at, places[other], row);
                 }
             }
         }
 
-        void loadSpot(int spot, long[] words, int at) {
-            Bytes.clear(words, at, WORDS);
-            addCells(spot, isSound(spot), words, at);
-        }
-
         void reckon(int spot, long[] words, int at) {
             Bytes.clear(words, at, WORDS);
-            addCells(spot, false, words, at);
+            addOthers(spot, words, at);
+        }
+
+        void loadSpot(int spot, long[] words, int at) {
+            if (isSound(spot)) {
+                rack.copyTo(words, at, places[spot], layout.rowOf(spot));
+            } else {
+                reckon(spot, words, at);
+            }
         }
 
         void load(int block, long[] words, int at) {
@@ -887,6 +893,19 @@ public final class DiskPool {
                 || rack.put(places[spot], layout.rowOf(spot), layout.tagOf(spot), words, at);
         }
 
+        /** The partial parity: the xor of the other data, each as it is read. */
+        private void gatherOtherData(int spot, int parity) {
+            int row = layout.rowOf(spot);
+            Bytes.clear(partial, 0, WORDS);
+            for (int other = layout.firstSpotBeside(spot); other < parity; other++) {
+                if (other != spot && isSound(other)) {
+                    rack.addTo(partial, 0, places[other], row);
+                } else if (other != spot) {
+                    addOthers(other, partial, 0);
+                }
+            }
+        }
+
         /** Writes a block; false when power is lost at that. */
         boolean store(int block, long[] words, int at) {
             int spot = layout.spotOf(block);
@@ -895,12 +914,7 @@ public final class DiskPool {
             if (logDisk == NONE) {
                 return putAt(spot, words, at);
             }
-            Bytes.clear(partial, 0, WORDS);
-            for (int other = layout.firstSpotBeside(spot); other < parity; other++) {
-                if (other != spot) {
-                    addCells(other, isSound(other), partial, 0);
-                }
-            }
+            gatherOtherData(spot, parity);
             for (int i = 0; i < WORDS; i++) {
                 whole[i] = partial[i] ^ words[at + i];
             }
