@@ -443,11 +443,11 @@ public final class DiskPool {
         static void setOne(long[] words, int from, int at, int value) {
             int shift = 8 * (at % 8);
             long others = words[from + at / 8] & ~(255L << shift);
-            words[from + at / 8] = others | (long) (value & 255) << shift;
+            words[from + at / 8] = others | ((long) (value & 255) << shift);
         }
 
         static int two(long[] words, int from, int at) {
-            return one(words, from, at) | one(words, from, at + 1) << 8;
+            return one(words, from, at) | (one(words, from, at + 1) << 8);
         }
 
         static void clear(long[] words, int from, int count) {
@@ -685,7 +685,7 @@ public final class DiskPool {
         void draftFlaw(int disk, int offset, int at, int n, long mask) {
             System.arraycopy(flaws, FLAW_WORDS * (disk * offsets + offset), draft, 0, FLAW_WORDS);
             for (int i = 0; i < n; i++) {
-                int spoilt = Bytes.one(draft, 0, at + i) ^ (int) (mask >>> (8 * i)) & 255;
+                int spoilt = Bytes.one(draft, 0, at + i) ^ (int) (mask >>> (8 * i));
                 Bytes.setOne(draft, 0, at + i, spoilt);
             }
         }
@@ -1117,7 +1117,7 @@ public final class DiskPool {
         }
 
         int pairAt(int block, int at) {
-            return byteAt(block, at) | byteAt(block, at + 1) << 8;
+            return byteAt(block, at) | (byteAt(block, at + 1) << 8);
         }
 
         void setByte(int block, int at, int value) {
@@ -1137,13 +1137,13 @@ public final class DiskPool {
 
         boolean isTaken(int block) {
             int bits = byteAt(MAP_BLOCK + block / MAP_BITS, block / 8 % BYTES);
-            return (bits >> block % 8 & 1) == 1;
+            return ((bits >> (block % 8)) & 1) == 1;
         }
 
         private void setTaken(int block, boolean taken) {
             int mapBlock = MAP_BLOCK + block / MAP_BITS;
             int at = block / 8 % BYTES;
-            int bit = 1 << block % 8;
+            int bit = 1 << (block % 8);
             int others = byteAt(mapBlock, at) & ~bit;
             touch(mapBlock);
             Bytes.setOne(held, WORDS * mapBlock, at, taken ? others | bit : others);

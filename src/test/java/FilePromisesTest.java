@@ -429,6 +429,11 @@ public final class FilePromisesTest {
         Due.due("not committed", 5, () -> pool.node(1, 1));
         atEveryWrite();
         commitsFirst();
+        overTheBrim("make", 7, 2, p -> p.make(1, 9, false));
+        overTheBrim("cut", 9, 2, p -> p.cut(6, 9));
+        overTheBrim("move", 0, 1, p -> p.move(1, 5, 1, 9));
+        overTheBrim("remove", 0, 2, p -> p.remove(1, 5));
+        overTheBrim("write", 1, 3, p -> { p.feed(1, 1); return p.write(6, 0); });
     }
 
     /** Power goes at each write of a commit: all of it is there then, or nothing. */
@@ -477,6 +482,45 @@ public final class FilePromisesTest {
         Due.due("committed", 3, () -> pool.find(0, 3));
         Due.due("not committed", -1, () -> pool.find(0, 4));
     }
+
+    /** A directory with an empty file and four more files are committed, then 24 blocks are changed. */
+    private static DiskPool brimful() {
+        DiskPool pool = new DiskPool(10, 3, 64);
+        pool.make(0, 100, true);
+        pool.make(1, 5, false);
+        for (int i = 3; i <= 6; i++) pool.make(0, i, false);
+        pool.sync();
+        for (int i = 3; i <= 5; i++) {
+            feed(pool, i == 5 ? 5 * 64 : 512, i);
+            pool.write(i, 0);
+        }
+        Due.due("brimful", 24, () -> pool.look(15));
+        return pool;
+    }
+
+    private static void overTheBrim(String what, int answer, int changed, ToCall call) {
+        DiskPool pool = brimful();
+        int writes = pool.look(1);
+        Due.due(what, answer, () -> call.of(pool));
+        Due.due(what + ": first", 1, () -> pool.look(17));
+        Due.due(what + ": 50 blocks", writes + 200, () -> pool.look(1));
+        Due.due(what + ": itself", changed, () -> pool.look(15));
+        Due.due(what + ": counted", 1, () -> pool.look(16));
+        reopen(pool);
+        Due.due(what + ": not committed", 2, () -> pool.find(1, 5));
+        Due.due(what + ": not committed", 0, () -> pool.node(2, 1) + pool.node(6, 1));
+        Due.due(what + ": what was there before is", 512, () -> pool.node(4, 1));
+        DiskPool other = brimful();
+        other.lose(1);
+        Due.due(what + ": power lost", -9, () -> call.of(other));
+        Due.due(what + ": off", 0, () -> other.look(0));
+        other.open();
+        Due.due(what + ": not done", 2, () -> other.find(1, 5));
+        Due.due(what + ": nothing is committed", 0, () -> other.node(4, 1));
+        Due.due(what + ": none first", 0, () -> other.look(17));
+    }
+
+    interface ToCall { long of(DiskPool pool); }
 
     private static void promise20() {
         DiskPool pool = new DiskPool(6, 3, 48);

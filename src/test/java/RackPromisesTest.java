@@ -146,6 +146,7 @@ public final class RackPromisesTest {
             Due.due("no hole", 0, () -> other.look(6));
         }
         logsWithoutDisks();
+        lostAtTheEndOfOpening();
         atEveryWriteOfOpening();
     }
 
@@ -180,6 +181,30 @@ public final class RackPromisesTest {
         other.fail(1);
         other.open();
         Due.due("without column j the log only becomes 0s", 3, () -> other.look(1));
+    }
+
+    /** Power goes at the last thing that an opening has to do. */
+    private static void lostAtTheEndOfOpening() {
+        for (int n = 1; n <= 2; n++) {
+            DiskPool pool = withFile();
+            pool.lose(3);
+            pool.sync();
+            pool.lose(n);
+            Due.due("lost at a log", false, pool.open());
+            Due.due("off", 0, () -> pool.look(0));
+            Due.due("then it opens", true, pool.open());
+        }
+        DiskPool pool = committed();
+        pool.fail(0);
+        pool.rebuild();
+        pool.replace(0);
+        pool.lose(2);
+        pool.copyBack();
+        pool.lose(1);
+        Due.due("lost at a spare", false, pool.open());
+        Due.due("off", 0, () -> pool.look(0));
+        Due.due("then it opens", true, pool.open());
+        Due.due("home", 0, () -> pool.place(0, 0));
     }
 
     private static void atEveryWriteOfOpening() {
