@@ -389,13 +389,9 @@ public final class DiskPool {
         return answer;
     }
 
-    /** Undoes an operation that is refused or leaves too much changed; tells whether it was the latter. */
+    /** Whether an operation left too much changed: then it is undone, to be done again behind a commit. */
     private boolean overflows(int answer) {
-        if (answer < 0) {
-            image.undo();
-            return false;
-        }
-        if (image.countChanged() <= MOST_CHANGED) {
+        if (answer < 0 || image.countChanged() <= MOST_CHANGED) {
             return false;
         }
         image.undo();
@@ -412,8 +408,10 @@ public final class DiskPool {
     }
 
     private int finished(int answer) {
-        image.forgetUndo();
-        if (answer >= 0) {
+        if (answer < 0) {
+            image.undo();
+        } else {
+            image.forgetUndo();
             operations++;
         }
         return answer;
