@@ -10,6 +10,7 @@ final class Due {
 
     private static int count;
     private static int wrong;
+    private static String sentence = "";
 
     private Due() { }
 
@@ -19,18 +20,40 @@ final class Due {
 
     static void due(String what, boolean want, boolean got) { due(what, one(want), () -> one(got)); }
 
-    static void due(String what, String want, Call call) {
-        String got;
+    static void due(String what, String want, Call call) { compare(what, want, answer(call)); }
+
+    private static String answer(Call call) {
         try {
-            got = Long.toString(call.of());
+            return Long.toString(call.of());
         } catch (IllegalArgumentException | IllegalStateException | NoSuchElementException e) {
-            got = "throws." + e.getClass().getSimpleName();
+            return "throws." + e.getClass().getSimpleName();
         }
+    }
+
+    private static void compare(String what, String want, String got) {
         count++;
         if (!got.equals(want)) {
             wrong++;
-            System.out.println(what + " answered " + got + ", due is " + want);
+            System.out.println(sentence + what + " answered " + got + ", due is " + want);
         }
+    }
+
+    /** A call that is refused or throws, and leaves all as it was. */
+    static void refused(String what, long want, DiskPool pool, Call call) {
+        refused(what, Long.toString(want), pool, call);
+    }
+
+    static void refused(String what, String want, DiskPool pool, Call call) {
+        String before = Pools.state(pool);
+        due(what, want, call);
+        compare(what + ": the state behind it", before, Pools.state(pool));
+    }
+
+    /** A sentence of the document that names a boundary case, with the test that is its own. */
+    static void holds(String words, Runnable test) {
+        sentence = "\"" + words + "\": ";
+        test.run();
+        sentence = "";
     }
 
     /** All looks from 0 on. */

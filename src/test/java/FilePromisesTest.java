@@ -1,21 +1,5 @@
 /** The promises about files: 2 to 10 and 20. */
 public final class FilePromisesTest {
-    private static void feed(DiskPool pool, int bytes, int value) {
-        for (int i = 0; i < bytes; i++) pool.feed(1, value);
-    }
-
-    /** A file of a size, with a name in the root. */
-    private static int file(DiskPool pool, int name, int size) {
-        int inode = pool.make(0, name, false);
-        for (int s = 0; s < size; s = Math.min(size, s + 1024)) pool.cut(inode, Math.min(size, s + 1024));
-        return inode;
-    }
-
-    private static void reopen(DiskPool pool) {
-        pool.off();
-        pool.open();
-    }
-
     private static void promise2() {
         DiskPool pool = new DiskPool(8, 3, 48);
         Due.due("feed none", Due.ARGUMENT, () -> pool.feed(0, 1));
@@ -34,7 +18,7 @@ public final class FilePromisesTest {
         Due.due("nothing came", 511, () -> pool.look(12));
         Due.due("the last one", 512, () -> pool.feed(1, 0));
         Due.due("one above", Due.STATE, () -> pool.feed(1, 0));
-        reopen(pool);
+        Pools.reopen(pool);
         Due.due("it stays while it is off", 512, () -> pool.look(12));
         pool.off();
         Due.due("it is told while it is off", 512, () -> pool.look(12));
@@ -77,7 +61,7 @@ public final class FilePromisesTest {
 
     private static void noBlockForAnEntry() {
         DiskPool pool = new DiskPool(6, 3, 48);
-        int full = file(pool, 1, 36 * 64);
+        int full = Pools.file(pool, 1, 36 * 64);
         Due.due("all are taken", 0, () -> pool.look(13));
         for (int i = 2; i <= 16; i++) pool.make(0, i, false);
         Due.due("no block for an entry", -4, () -> pool.make(0, 17, false));
@@ -110,25 +94,25 @@ public final class FilePromisesTest {
         pool.make(0, 1, false);
         pool.make(0, 2, true);
         Due.due("an empty tape", 0, () -> pool.write(1, 0));
-        feed(pool, 100, 7);
+        Pools.feed(pool, 100, 7);
         Due.due("a hundred", 100, () -> pool.write(1, 0));
         Due.due("used up", 0, () -> pool.look(12));
-        feed(pool, 4, 9);
+        Pools.feed(pool, 4, 9);
         Due.due("in the middle", 100, () -> pool.write(1, 62));
         Due.due("over two blocks", 0x0707090909090707L, () -> pool.read(1, 60));
-        feed(pool, 30, 8);
+        Pools.feed(pool, 30, 8);
         Due.due("behind the end", 130, () -> pool.write(1, 100));
         Due.due("two at the end", 0x0808L, () -> pool.read(1, 128));
         Due.due("three blocks in one", 3, () -> pool.node(1, 4) * pool.node(1, 2));
-        feed(pool, 5, 1);
+        Pools.feed(pool, 5, 1);
         Due.due("above its size", -8, () -> pool.write(1, 131));
         Due.due("used up by that", 0, () -> pool.look(12));
         Due.due("below 0", -8, () -> pool.write(1, -1));
         Due.due("an empty one above", -8, () -> pool.write(1, Integer.MAX_VALUE));
-        feed(pool, 5, 1);
+        Pools.feed(pool, 5, 1);
         Due.due("a directory", -5, () -> pool.write(2, 0));
         Due.due("none", -1, () -> pool.write(3, 0));
-        feed(pool, 5, 1);
+        Pools.feed(pool, 5, 1);
         Due.due("wrong", Due.ARGUMENT, () -> pool.write(64, 0));
         Due.due("not used up", 5, () -> pool.look(12));
         pool.off();
@@ -140,14 +124,14 @@ public final class FilePromisesTest {
 
     private static void noBlockToWrite() {
         DiskPool pool = new DiskPool(6, 3, 48);
-        int inode = file(pool, 1, 33 * 64);
-        feed(pool, 4 * 64, 5);
+        int inode = Pools.file(pool, 1, 33 * 64);
+        Pools.feed(pool, 4 * 64, 5);
         Due.due("no block", -4, () -> pool.write(inode, 32 * 64 + 1));
         Due.due("used up", 0, () -> pool.look(12));
         Due.due("all or nothing", 33 * 64, () -> pool.node(inode, 1));
         Due.due("all or nothing", 0, () -> pool.read(inode, 32 * 64));
         Due.due("all or nothing", 3, () -> pool.look(13));
-        feed(pool, 4 * 64 - 1, 5);
+        Pools.feed(pool, 4 * 64 - 1, 5);
         Due.due("up to the last one", 36 * 64, () -> pool.write(inode, 32 * 64 + 1));
         Due.due("none is free", 0, () -> pool.look(13));
     }
@@ -155,14 +139,14 @@ public final class FilePromisesTest {
     private static void lostWhileWriting() {
         DiskPool pool = new DiskPool(10, 3, 64);
         pool.make(0, 1, false);
-        feed(pool, 512, 1);
+        Pools.feed(pool, 512, 1);
         pool.write(1, 0);
-        feed(pool, 512, 2);
+        Pools.feed(pool, 512, 2);
         pool.write(1, 512);
-        feed(pool, 256, 3);
+        Pools.feed(pool, 256, 3);
         Due.due("three, a map and twenty", 1280, () -> pool.write(1, 1024));
         Due.due("changed", 23, () -> pool.look(15));
-        feed(pool, 128, 4);
+        Pools.feed(pool, 128, 4);
         pool.lose(100);
         Due.due("lost ahead of the writing", -9, () -> pool.write(1, 1280));
         Due.due("off", 0, () -> pool.look(0));
@@ -191,7 +175,7 @@ public final class FilePromisesTest {
         Due.due("a directory", -5, () -> pool.cut(2, 0));
         Due.due("none", -1, () -> pool.cut(3, 0));
         Due.due("wrong", Due.ARGUMENT, () -> pool.cut(-1, 0));
-        feed(pool, 10, 255);
+        Pools.feed(pool, 10, 255);
         pool.write(1, 0);
         pool.cut(1, 3);
         pool.cut(1, 8);
@@ -235,7 +219,7 @@ public final class FilePromisesTest {
     private static void staleBlocks() {
         DiskPool pool = new DiskPool(8, 3, 48);
         pool.make(0, 1, false);
-        feed(pool, 200, 255);
+        Pools.feed(pool, 200, 255);
         pool.write(1, 0);
         pool.sync();
         pool.remove(0, 1);
@@ -247,23 +231,23 @@ public final class FilePromisesTest {
         }
         Due.due("an entry, and four that are 0s now", 5, () -> pool.look(15));
         Due.due("so many", 5, pool::sync);
-        reopen(pool);
+        Pools.reopen(pool);
         Due.due("0s still", 0, () -> pool.read(1, 192));
     }
 
     private static void longExtents() {
         DiskPool pool = new DiskPool(16, 5, 64);
-        int inode = file(pool, 1, 300 * 64);
+        int inode = Pools.file(pool, 1, 300 * 64);
         Due.due("two extents", 2, () -> pool.node(inode, 2));
         Due.due("255 in one", 255, () -> pool.node(inode, 4));
         Due.due("the other right behind", 60 + 255, () -> pool.node(inode, 5));
         Due.due("with the rest", 45, () -> pool.node(inode, 6));
-        int rest = file(pool, 2, 11 * 1024);
-        int more = file(pool, 3, 11 * 1024);
+        int rest = Pools.file(pool, 2, 11 * 1024);
+        int more = Pools.file(pool, 3, 11 * 1024);
         Due.due("over into the map's second block", 60 + 300 + 176, () -> pool.node(more, 3));
         pool.sync();
         int free = pool.look(13);
-        reopen(pool);
+        Pools.reopen(pool);
         Due.due("as many are free", free, () -> pool.look(13));
         Due.due("all in all", 768 - 59 - 1 - 300 - 176 - 176, () -> pool.look(13));
         pool.remove(0, 2);
@@ -349,7 +333,7 @@ public final class FilePromisesTest {
     private static void entriesOfMoves() {
         DiskPool pool = new DiskPool(8, 3, 48);
         for (int i = 1; i <= 16; i++) pool.make(0, i, false);
-        feed(pool, 65, 3);
+        Pools.feed(pool, 65, 3);
         pool.write(5, 0);
         Due.due("its own entry is empty first", 0, () -> pool.move(0, 16, 0, 100));
         Due.due("so nothing grows", 64, () -> pool.node(0, 1));
@@ -367,7 +351,7 @@ public final class FilePromisesTest {
     private static void noBlockToMove() {
         DiskPool pool = new DiskPool(6, 3, 48);
         pool.make(0, 1, true);
-        int inode = file(pool, 2, 36 * 64);
+        int inode = Pools.file(pool, 2, 36 * 64);
         Due.due("no block", -4, () -> pool.move(0, 2, 1, 2));
         Due.due("all or nothing", inode, () -> pool.find(0, 2));
         pool.cut(inode, 35 * 64);
@@ -378,7 +362,7 @@ public final class FilePromisesTest {
 
     private static void promise9() {
         DiskPool pool = tree();
-        feed(pool, 130, 6);
+        Pools.feed(pool, 130, 6);
         pool.write(4, 0);
         int free = pool.look(13);
         Due.due("none", -1, () -> pool.remove(9, 1));
@@ -460,10 +444,10 @@ public final class FilePromisesTest {
         DiskPool pool = new DiskPool(10, 3, 64);
         for (int i = 1; i <= 3; i++) pool.make(0, i, false);
         for (int i = 1; i <= 2; i++) {
-            feed(pool, 512, i);
+            Pools.feed(pool, 512, i);
             pool.write(i, 0);
         }
-        feed(pool, 256, 9);
+        Pools.feed(pool, 256, 9);
         pool.write(3, 0);
         Due.due("just 24", 24, () -> pool.look(15));
         Due.due("six operations", 6, () -> pool.look(16));
@@ -477,40 +461,25 @@ public final class FilePromisesTest {
         Due.due("itself", 2, () -> pool.look(15));
         Due.due("one since", 1, () -> pool.look(16));
         Due.due("the sequence", 1, () -> pool.look(18));
-        reopen(pool);
+        Pools.reopen(pool);
         Due.due("since the opening", 0, () -> pool.look(17));
         Due.due("committed", 3, () -> pool.find(0, 3));
         Due.due("not committed", -1, () -> pool.find(0, 4));
     }
 
-    /** A directory with an empty file and four more files are committed, then 24 blocks are changed. */
-    private static DiskPool brimful() {
-        DiskPool pool = new DiskPool(10, 3, 64);
-        pool.make(0, 100, true);
-        pool.make(1, 5, false);
-        for (int i = 3; i <= 6; i++) pool.make(0, i, false);
-        pool.sync();
-        for (int i = 3; i <= 5; i++) {
-            feed(pool, i == 5 ? 5 * 64 : 512, i);
-            pool.write(i, 0);
-        }
-        Due.due("brimful", 24, () -> pool.look(15));
-        return pool;
-    }
-
     private static void overTheBrim(String what, int answer, int changed, ToCall call) {
-        DiskPool pool = brimful();
+        DiskPool pool = Pools.brimful();
         int writes = pool.look(1);
         Due.due(what, answer, () -> call.of(pool));
         Due.due(what + ": first", 1, () -> pool.look(17));
         Due.due(what + ": 50 blocks", writes + 200, () -> pool.look(1));
         Due.due(what + ": itself", changed, () -> pool.look(15));
         Due.due(what + ": counted", 1, () -> pool.look(16));
-        reopen(pool);
+        Pools.reopen(pool);
         Due.due(what + ": not committed", 2, () -> pool.find(1, 5));
         Due.due(what + ": not committed", 0, () -> pool.node(2, 1) + pool.node(6, 1));
         Due.due(what + ": what was there before is", 512, () -> pool.node(4, 1));
-        DiskPool other = brimful();
+        DiskPool other = Pools.brimful();
         other.lose(1);
         Due.due(what + ": power lost", -9, () -> call.of(other));
         Due.due(what + ": off", 0, () -> other.look(0));

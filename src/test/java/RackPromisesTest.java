@@ -2,27 +2,6 @@ import java.util.zip.CRC32C;
 
 /** The promises about the rack: 1, 11 to 19, 21 and 22. */
 public final class RackPromisesTest {
-    private static int steps(Due.Call step) {
-        int count = 0;
-        while (count < 2000 && step.of() == 1) count++;
-        return count;
-    }
-
-    /** A pool of 6 disks with one file of a byte, not committed: 4 blocks are changed. */
-    private static DiskPool withFile() {
-        DiskPool pool = new DiskPool(6, 3, 48);
-        pool.make(0, 7, false);
-        pool.feed(1, 77);
-        pool.write(1, 0);
-        return pool;
-    }
-
-    private static DiskPool committed() {
-        DiskPool pool = withFile();
-        pool.sync();
-        return pool;
-    }
-
     private static void newOne(int disks, int width, int rows, int... due) {
         DiskPool pool = new DiskPool(disks, width, rows);
         String what = "new " + disks + " " + width + " " + rows;
@@ -60,7 +39,7 @@ public final class RackPromisesTest {
     }
 
     private static void promise11() {
-        DiskPool pool = withFile();
+        DiskPool pool = Pools.withFile();
         Due.due("below 0", Due.ARGUMENT, () -> { pool.lose(-1); return 0; });
         pool.lose(1);
         pool.lose(0);
@@ -86,7 +65,7 @@ public final class RackPromisesTest {
     }
 
     private static void whileOff() {
-        DiskPool pool = withFile();
+        DiskPool pool = Pools.withFile();
         pool.lose(25);
         Due.due("lost", -9, pool::sync);
         pool.lose(3);
@@ -94,7 +73,7 @@ public final class RackPromisesTest {
         Due.due("lost in the opening", false, pool.open());
         Due.due("three more were done", 24 + 3, () -> pool.look(1));
         Due.due("opened", true, pool.open());
-        DiskPool other = withFile();
+        DiskPool other = Pools.withFile();
         other.off();
         other.lose(2);
         other.open();
@@ -104,7 +83,7 @@ public final class RackPromisesTest {
     }
 
     private static void promise12() {
-        DiskPool pool = withFile();
+        DiskPool pool = Pools.withFile();
         pool.feed(1, 5);
         pool.off();
         Due.due("off", 0, () -> pool.look(0));
@@ -123,7 +102,7 @@ public final class RackPromisesTest {
     }
 
     private static void promise13() {
-        DiskPool pool = committed();
+        DiskPool pool = Pools.committed();
         Due.due("on already", Due.STATE, () -> Due.one(pool.open()));
         pool.off();
         Due.due("opens", true, pool.open());
@@ -133,7 +112,7 @@ public final class RackPromisesTest {
         // All writes that the commit did, and those of the opening: the log's, and 20 of the journal.
         int[][] cases = {{21, 20, 0}, {22, 21, 2}, {23, 22, 2}, {24, 23, 2}, {25, 24, 0}, {40, 39, 2}};
         for (int[] c : cases) {
-            DiskPool other = withFile();
+            DiskPool other = Pools.withFile();
             other.lose(c[0]);
             other.sync();
             Due.due("done at " + c[0], c[1], () -> other.look(1));
@@ -154,7 +133,7 @@ public final class RackPromisesTest {
     private static void logsWithoutDisks() {
         for (int disk = 0; disk < 6; disk++) {
             for (int n = 1; n <= 40; n++) {
-                DiskPool pool = withFile();
+                DiskPool pool = Pools.withFile();
                 pool.lose(n);
                 pool.sync();
                 int failed = disk;
@@ -169,13 +148,13 @@ public final class RackPromisesTest {
                 Due.due("nothing strayed", 0, () -> pool.look(19));
             }
         }
-        DiskPool pool = withFile();
+        DiskPool pool = Pools.withFile();
         pool.lose(3);
         pool.sync();
         pool.fail(2);
         pool.open();
         Due.due("the log went with its disk", 2, () -> pool.look(1));
-        DiskPool other = withFile();
+        DiskPool other = Pools.withFile();
         other.lose(3);
         other.sync();
         other.fail(1);
@@ -186,7 +165,7 @@ public final class RackPromisesTest {
     /** Power goes at the last thing that an opening has to do. */
     private static void lostAtTheEndOfOpening() {
         for (int n = 1; n <= 2; n++) {
-            DiskPool pool = withFile();
+            DiskPool pool = Pools.withFile();
             pool.lose(3);
             pool.sync();
             pool.lose(n);
@@ -194,7 +173,7 @@ public final class RackPromisesTest {
             Due.due("off", 0, () -> pool.look(0));
             Due.due("then it opens", true, pool.open());
         }
-        DiskPool pool = committed();
+        DiskPool pool = Pools.committed();
         pool.fail(0);
         pool.rebuild();
         pool.replace(0);
@@ -209,7 +188,7 @@ public final class RackPromisesTest {
 
     private static void atEveryWriteOfOpening() {
         for (int n = 1; n <= 22; n++) {
-            DiskPool pool = withFile();
+            DiskPool pool = Pools.withFile();
             pool.lose(23);
             pool.sync();
             pool.lose(n);
@@ -222,7 +201,7 @@ public final class RackPromisesTest {
     }
 
     private static void promise14() {
-        DiskPool pool = committed();
+        DiskPool pool = Pools.committed();
         Due.due("none", Due.ARGUMENT, () -> Due.one(pool.fail(6)));
         Due.due("none", Due.ARGUMENT, () -> Due.one(pool.fail(-1)));
         Due.due("fails", true, pool.fail(2));
@@ -232,12 +211,12 @@ public final class RackPromisesTest {
         Due.due("and a half of the spares", 120, () -> pool.look(4));
         Due.due("refused", false, pool.fail(3));
         Due.due("refused, so nothing is lost", 24, () -> pool.look(2));
-        Due.due("rebuilt", 24, () -> steps(pool::rebuild));
+        Due.due("rebuilt", 24, () -> Pools.steps(pool::rebuild));
         Due.due("not refused then", true, pool.fail(3));
-        Due.due("rebuilt", pool.look(2), () -> steps(pool::rebuild));
+        Due.due("rebuilt", pool.look(2), () -> Pools.steps(pool::rebuild));
         Due.due("none is lost", 0, () -> pool.look(2));
         Due.due("a third one", true, pool.fail(0));
-        steps(pool::rebuild);
+        Pools.steps(pool::rebuild);
         Due.due("no spare is free", 0, () -> pool.look(4));
         Due.due("a fourth one", true, pool.fail(5));
         Due.due("one of each stripe", 48, () -> pool.look(2));
@@ -256,7 +235,7 @@ public final class RackPromisesTest {
     }
 
     private static void promise15() {
-        DiskPool pool = committed();
+        DiskPool pool = Pools.committed();
         Due.due("none", Due.ARGUMENT, () -> Due.one(pool.replace(6)));
         Due.due("none", Due.ARGUMENT, () -> Due.one(pool.replace(-1)));
         Due.due("live", false, pool.replace(1));
@@ -289,7 +268,7 @@ public final class RackPromisesTest {
     }
 
     private static void promise16() {
-        DiskPool pool = committed();
+        DiskPool pool = Pools.committed();
         int[][] wrong = {{-1, 0, 0, 1}, {6, 0, 0, 1}, {0, -1, 0, 1}, {0, 48, 0, 1}, {0, 0, 0, 0}, {0, 0, 0, 9},
             {0, 0, -1, 1}, {0, 0, 70, 1}, {0, 0, 63, 8}};
         for (int[] w : wrong) Due.due("wrong", Due.ARGUMENT, () -> Due.one(pool.spoil(w[0], w[1], w[2], w[3], 1)));
@@ -318,7 +297,7 @@ public final class RackPromisesTest {
     }
 
     private static void forging() {
-        DiskPool pool = committed();
+        DiskPool pool = Pools.committed();
         for (int change = 1; change != 0; change <<= 1) {
             long mask = forged(change);
             Due.due("the check would be right", false, pool.spoil(0, 0, 62, 8, mask));
@@ -336,7 +315,7 @@ public final class RackPromisesTest {
     }
 
     private static void mendedByWrites() {
-        DiskPool pool = withFile();
+        DiskPool pool = Pools.withFile();
         Due.due("the head", true, pool.spoil(0, 0, 5, 1, 1));
         Due.due("four writes each", 40, () -> pool.sync() * 10);
         Due.due("mended", 0, () -> pool.look(3));
@@ -344,7 +323,7 @@ public final class RackPromisesTest {
         pool.cut(1, 0);
         pool.sync();
         Due.due("mended", 0, () -> pool.look(3));
-        DiskPool other = committed();
+        DiskPool other = Pools.committed();
         // Block 60 is column 0 of stripe 30: row 30, with the first step, 1.
         Due.due("the file's block", true, other.spoil(0, 30, 0, 8, 99));
         Due.due("reckoned", 77, () -> other.read(1, 0));
@@ -360,7 +339,7 @@ public final class RackPromisesTest {
     }
 
     private static void spoiltSpare() {
-        DiskPool pool = committed();
+        DiskPool pool = Pools.committed();
         pool.fail(0);
         pool.rebuild();
         Due.due("its place", 3, () -> pool.place(0, 0));
@@ -383,7 +362,7 @@ public final class RackPromisesTest {
     }
 
     private static void promise17() {
-        DiskPool pool = committed();
+        DiskPool pool = Pools.committed();
         Due.due("nothing to do", 0, pool::rebuild);
         pool.fail(0);
         Due.due("the first", 1, pool::rebuild);
@@ -400,7 +379,7 @@ public final class RackPromisesTest {
         Due.due("it is found where it is", 3, () -> pool.place(0, 0));
         Due.due("the second", 1, pool::rebuild);
         Due.due("onto the first spare", 4, () -> pool.place(1, 1));
-        Due.due("the others", 22, () -> steps(pool::rebuild));
+        Due.due("the others", 22, () -> Pools.steps(pool::rebuild));
         Due.due("none is lost", 0, () -> pool.look(2));
         Due.due("so many are free", 120 - 24, () -> pool.look(4));
         Due.due("nothing to do", 0, pool::rebuild);
@@ -412,17 +391,17 @@ public final class RackPromisesTest {
         Due.due("lost again, with its spare", -1, () -> pool.place(0, 0));
         Due.due("rebuilt again", 1, pool::rebuild);
         Due.due("onto the next spare", 4, () -> pool.place(0, 0));
-        steps(pool::rebuild);
+        Pools.steps(pool::rebuild);
         pool.replace(0);
         Due.due("another fails", true, pool.fail(4));
-        steps(pool::rebuild);
+        Pools.steps(pool::rebuild);
         Due.due("a home that is live is not rebuilt", -1, () -> pool.place(0, 0));
         Due.due("it is copied back", 1, pool::copyBack);
         Due.due("home", 0, () -> pool.place(0, 0));
     }
 
     private static void promise18() {
-        DiskPool pool = committed();
+        DiskPool pool = Pools.committed();
         Due.due("nothing to do", 0, pool::copyBack);
         pool.fail(0);
         Due.due("nothing to do without the disk", 0, pool::copyBack);
@@ -437,7 +416,7 @@ public final class RackPromisesTest {
         Due.due("and is reckoned", 1, pool::copyBack);
         Due.due("one write", 44, () -> pool.look(1));
         Due.due("home", 0, () -> pool.place(1, 1));
-        Due.due("the others", 22, () -> steps(pool::copyBack));
+        Due.due("the others", 22, () -> Pools.steps(pool::copyBack));
         Due.due("none is lost", 0, () -> pool.look(2));
         Due.due("all is there", 77, () -> pool.read(1, 0));
         Due.due("nothing strayed", 0, () -> pool.look(19));
@@ -447,9 +426,9 @@ public final class RackPromisesTest {
     }
 
     private static void copyingLost() {
-        DiskPool pool = committed();
+        DiskPool pool = Pools.committed();
         pool.fail(0);
-        steps(pool::rebuild);
+        Pools.steps(pool::rebuild);
         pool.replace(0);
         int writes = pool.look(1);
         pool.lose(1);
@@ -478,7 +457,7 @@ public final class RackPromisesTest {
     }
 
     private static void promise19() {
-        DiskPool pool = committed();
+        DiskPool pool = Pools.committed();
         Due.due("nothing", 0, pool::scrub);
         Due.due("next", 1, () -> pool.look(8));
         pool.spoil(2, 0, 0, 1, 1);
@@ -501,7 +480,7 @@ public final class RackPromisesTest {
         pool.fail(1);
         for (int s = 0; s < 48; s++) Due.due("what is lost is no hole", 0, pool::scrub);
         Due.due("no hole", 0, () -> pool.look(6));
-        DiskPool other = withFile();
+        DiskPool other = Pools.withFile();
         other.scrub();
         other.lose(25);
         other.sync();
