@@ -363,6 +363,44 @@ public final class FileEdgesTest {
         Due.due("a file is no directory", 0, () -> pool.move(1, 2, 6, 2));
     }
 
+    /** Numbers, blocks and bytes of files tell nothing about which directory is within which. */
+    private static void withinByEntriesAlone() {
+        DiskPool higher = tree();
+        higher.move(0, 1, 4, 1);
+        Due.due("into one of a lower number", -7, () -> higher.move(0, 4, 1, 9));
+        Due.due("out again", 0, () -> higher.move(4, 1, 0, 1));
+        Due.due("not within any more", 0, () -> higher.move(0, 4, 1, 9));
+        DiskPool crossed = new DiskPool(6, 3, 48);
+        for (int i = 1; i <= 2; i++) crossed.make(0, i, true);
+        crossed.make(2, 3, true);
+        crossed.make(1, 4, true);
+        Due.due("their blocks are crossed", 61 * 100 + 60, () -> 100 * crossed.node(1, 3) + crossed.node(2, 3));
+        Due.due("within the first", -7, () -> crossed.move(0, 1, 4, 9));
+        Due.due("within the second", -7, () -> crossed.move(0, 2, 3, 9));
+        Due.due("not within", 0, () -> crossed.move(0, 2, 4, 9));
+        DiskPool forged = new DiskPool(6, 3, 48);
+        forged.make(0, 1, true);
+        forged.make(1, 2, true);
+        forged.make(0, 3, false);
+        forged.feed(4, 9 | 2 << 16);
+        forged.write(3, 0);
+        Due.due("a file has no entries", -7, () -> forged.move(0, 1, 2, 9));
+    }
+
+    /** 63 directories, each in the one before. */
+    private static void withinTheDeepest() {
+        DiskPool pool = new DiskPool(8, 3, 48);
+        for (int i = 1; i <= 63; i++) pool.make(i - 1, i, true);
+        Due.due("the deepest", 63, () -> pool.find(62, 63));
+        tell(pool, "into the deepest", -7, () -> pool.move(0, 1, 63, 9));
+        Due.due("the second one", -7, () -> pool.move(1, 2, 63, 9));
+        Due.due("the last one into itself", -7, () -> pool.move(62, 63, 63, 9));
+        Due.due("not empty", -6, () -> pool.remove(0, 1));
+        Due.due("the last one up", 0, () -> pool.move(62, 63, 0, 9));
+        Due.due("now it is not within", 0, () -> pool.move(0, 1, 63, 1));
+        Due.due("but now that", -7, () -> pool.move(0, 9, 62, 9));
+    }
+
     private static void theSameEntry() {
         DiskPool pool = full();
         pool.sync();
@@ -442,6 +480,26 @@ public final class FileEdgesTest {
         Due.due("power lost", -9, () -> lost.remove(1, 5));
     }
 
+    /** What lies in the blocks right behind its own ones is no matter. */
+    private static void removingBesideOthers() {
+        DiskPool pool = tree();
+        pool.make(4, 5, false);
+        Pools.feed(pool, 130, 255);
+        pool.write(3, 0);
+        Pools.feed(pool, 64, 255);
+        pool.write(2, 0);
+        Due.due("the directory's block, then the files'", 61, () -> pool.node(4, 3));
+        Due.due("the first file's three", 62 * 10 + 3, () -> 10 * pool.node(3, 3) + pool.node(3, 4));
+        Due.due("the other file's", 65, () -> pool.node(2, 3));
+        int free = pool.look(13);
+        pool.remove(4, 5);
+        Due.due("an empty directory ahead of a file", 0, () -> pool.remove(0, 4));
+        Due.due("its block", free + 1, () -> pool.look(13));
+        Due.due("a file ahead of another", 0, () -> pool.remove(0, 3));
+        Due.due("its blocks", free + 4, () -> pool.look(13));
+        Due.due("the other is as it was", -1L, () -> pool.read(2, 56));
+    }
+
     /** The one entry of a directory that is not empty is the last of its second block. */
     private static void notEmptyAtTheEnd() {
         DiskPool pool = new DiskPool(8, 3, 48);
@@ -508,7 +566,7 @@ public final class FileEdgesTest {
         Due.holds("its inode, the least that is free", FileEdgesTest::leastFreeInode);
         Due.holds("otherwise the first that holds: -1 or -5 for the directory, -2, -3, -4", FileEdgesTest::firstOfMake);
         Due.holds("-3, -4; or -9", FileEdgesTest::powerLostInMake);
-        Due.holds("when an inode is not 0 .. 63 (as all calls that get them do)", FileEdgesTest::noSuchInode);
+        Due.holds("Throws IllegalArgumentException when an inode is not 0 .. 63", FileEdgesTest::noSuchInode);
         Due.holds("or name not 1 .. 65535 (as all calls that get them do)", FileEdgesTest::noSuchName);
         Due.holds("IllegalStateException when it is off", FileEdgesTest::whenItIsOff);
         Due.holds("The inode of an entry; -1 or -5 for the directory, -1 for the entry", FileEdgesTest::finding);
@@ -519,15 +577,18 @@ public final class FileEdgesTest {
         Due.holds("A file is cut to a size, or grows to it with 0s: that size", FileEdgesTest::cutting);
         Due.holds("-8 when size is below 0, or more than 1024 above what it is", FileEdgesTest::cuttingOutOfBounds);
         Due.holds("otherwise: -1, -5; -8 ...; -4; or -9", FileEdgesTest::firstOfCut);
-        Due.holds("Eight bytes of a file or directory, from offset on; 0s behind the end", FileEdgesTest::reading);
+        Due.holds("Eight bytes of a file or directory, from offset on, ... 0s behind the end", FileEdgesTest::reading);
         Due.holds("NoSuchElementException when it is free, or has no byte there; IllegalStateException (ahead of that) when it is off", FileEdgesTest::noByteThere);
         Due.holds("(What is not changed is read from the volume.)", FileEdgesTest::readFromTheVolume);
         Due.holds("otherwise the first that holds: -1, -5 for the one directory; ... -6 if it is one that is not empty; -7", FileEdgesTest::firstOfMove);
+        Due.holds("-7 a directory would come into itself, or into one within it", FileEdgesTest::withinByEntriesAlone);
+        Due.holds("or into one within it", FileEdgesTest::withinTheDeepest);
         Due.holds("0, and nothing changes, if it is the same one", FileEdgesTest::theSameEntry);
         Due.holds("-7; -4; or -9", FileEdgesTest::noBlockToMove);
         Due.holds("If there was one, its inode is freed, it has the moved one's inode then", FileEdgesTest::ontoAnother);
         Due.holds("otherwise the first one becomes empty, and then a new entry is made", FileEdgesTest::emptyFirstThenNew);
         Due.holds("An entry becomes empty, its inode is freed: 0; otherwise: -1, -5; -1; -6; or -9. (A directory's size stays.)", FileEdgesTest::removing);
+        Due.holds("its inode is freed", FileEdgesTest::removingBesideOthers);
         Due.holds("-6 a directory is not empty", FileEdgesTest::notEmptyAtTheEnd);
         Due.holds("Commits: how many blocks were changed; -9 when power was lost", FileEdgesTest::syncing);
         Due.holds("NoSuchElementException when there is no such extent or what", FileEdgesTest::nodes);

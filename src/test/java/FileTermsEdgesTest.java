@@ -216,6 +216,38 @@ public final class FileTermsEdgesTest {
         }
     }
 
+    /** An extent that is given back, too, leaves 0s: so the inodes are as they were. */
+    private static void extentsThatAreNone() {
+        DiskPool pool = sevenExtents();
+        pool.sync();
+        pool.cut(1, 64 * 8);
+        Due.due("an eighth: inodes, map", 2, () -> pool.look(15));
+        pool.cut(1, 64 * 7);
+        Due.due("all as it was", 0, () -> pool.look(15));
+        pool.cut(2, 64 * 9);
+        pool.cut(2, 64 * 7);
+        Due.due("all as it was", 0, () -> pool.look(15));
+    }
+
+    /** Two files in turn: each block has bytes of its own file alone. */
+    private static void extentsInTurn() {
+        DiskPool pool = sevenExtents();
+        pool.cut(1, 64 * 10);
+        for (int i = 0; i < 10; i++) {
+            put(pool, 1, 64 * i, 100 + i);
+            if (i < 7) put(pool, 2, 64 * i, 200 + i);
+        }
+        for (int round = 0; round < 2; round++) {
+            for (int i = 0; i < 10; i++) {
+                int at = i;
+                Due.due("the one, block " + i, 100 + i, () -> pool.read(1, 64 * at));
+                if (i < 7) Due.due("the other, block " + i, 200 + i, () -> pool.read(2, 64 * at));
+            }
+            pool.sync();
+            Pools.reopen(pool);
+        }
+    }
+
     private static void freeInodes() {
         DiskPool pool = new DiskPool(6, 3, 48);
         pool.make(0, 1, false);
@@ -278,6 +310,22 @@ public final class FileTermsEdgesTest {
         Due.due("and, 61 being taken, 63", 63, () -> pool.node(3, 5));
         Due.due("the least free", 64 * 3, () -> pool.cut(2, 64 * 3));
         Due.due("as an extent of its own", 64, () -> pool.node(2, 5));
+    }
+
+    private static void takesTheLeastFree() {
+        DiskPool pool = new DiskPool(8, 3, 48);
+        for (int i = 1; i <= 4; i++) Pools.file(pool, i, 64);
+        pool.cut(3, 0);
+        pool.cut(2, 0);
+        Due.due("61 and 62 are free, 61 is right behind", 128, () -> pool.cut(1, 128));
+        Due.due("it grew", 2, () -> pool.node(1, 4));
+        pool.cut(1, 64);
+        Due.due("64 is right behind, 61 the least", 64, () -> pool.cut(2, 64));
+        Due.due("the least", 61, () -> pool.node(2, 3));
+        Due.due("61 is taken, 62 is the least", 128, () -> pool.cut(1, 128));
+        Due.due("as an extent of its own", 62, () -> pool.node(1, 5));
+        Due.due("that grows in its turn", 192, () -> pool.cut(4, 192));
+        Due.due("64 and 65", 3, () -> pool.node(4, 4));
     }
 
     private static void takesAtTheEnd() {
@@ -427,6 +475,34 @@ public final class FileTermsEdgesTest {
         Due.due("no third", 128, () -> pool.node(0, 1));
     }
 
+    private static void sizesOfDirectories() {
+        DiskPool pool = new DiskPool(8, 3, 48);
+        pool.make(0, 1, true);
+        Due.due("none", 0, () -> pool.node(1, 1));
+        for (int i = 1; i <= 33; i++) {
+            int many = i;
+            pool.make(1, i, false);
+            Due.due(i + " entries", (many + 15) / 16 * 64, () -> pool.node(1, 1));
+        }
+        for (int i = 33; i > 0; i--) pool.remove(1, i);
+        Due.due("none again", 192, () -> pool.node(1, 1));
+    }
+
+    private static void root() {
+        DiskPool pool = new DiskPool(6, 3, 48);
+        Due.due("a directory", 2, () -> pool.node(0, 0));
+        Due.due("of size 0", 0, () -> pool.node(0, 1));
+        Due.due("without a byte", Due.ELEMENT, () -> pool.read(0, 0));
+        Due.due("no file", -5, () -> pool.write(0, 0));
+        Due.due("nor cut", -5, () -> pool.cut(0, 0));
+        pool.make(0, 1, true);
+        Due.due("its number is none's", 1, () -> pool.find(0, 1));
+        Due.due("one is within it", 0, () -> pool.find(1, 1) + 1);
+        pool.remove(0, 1);
+        Due.due("it is never free", 2, () -> pool.node(0, 0));
+        Due.due("63 are", 63, () -> pool.look(14));
+    }
+
     private static void changedBlocks() {
         DiskPool pool = Pools.withFile();
         Due.due("four", 4, () -> pool.look(15));
@@ -512,6 +588,76 @@ public final class FileTermsEdgesTest {
         Due.due("lost then", -9, pool::sync);
     }
 
+    /** 1 is a directory with the empty file 2, 3 a file of ten bytes, 4 and more are free. */
+    private static DiskPool small() {
+        DiskPool pool = new DiskPool(6, 3, 48);
+        pool.make(0, 1, true);
+        pool.make(1, 2, false);
+        pool.make(0, 3, false);
+        pool.cut(3, 10);
+        return pool;
+    }
+
+    private static void noInodeOrEntry() {
+        DiskPool pool = small();
+        Due.due("make", -1, () -> pool.make(4, 1, false));
+        Due.due("find", -1, () -> pool.find(4, 1));
+        Due.due("write", -1, () -> pool.write(4, 0));
+        Due.due("cut", -1, () -> pool.cut(4, 0));
+        Due.due("move from", -1, () -> pool.move(4, 1, 0, 9));
+        Due.due("move to", -1, () -> pool.move(0, 3, 4, 9));
+        Due.due("remove", -1, () -> pool.remove(4, 1));
+        Due.due("no entry to find", -1, () -> pool.find(0, 2));
+        Due.due("no entry to move", -1, () -> pool.move(0, 2, 0, 9));
+        Due.refused("no entry to remove", -1, pool, () -> pool.remove(0, 2));
+    }
+
+    private static void otherKinds() {
+        DiskPool pool = small();
+        Due.due("make in a file", -5, () -> pool.make(3, 1, false));
+        Due.due("find in a file", -5, () -> pool.find(3, 1));
+        Due.due("write into a directory", -5, () -> pool.write(1, 0));
+        Due.due("cut a directory", -5, () -> pool.cut(1, 0));
+        Due.due("move from a file", -5, () -> pool.move(3, 1, 0, 9));
+        Due.due("move into a file", -5, () -> pool.move(0, 1, 3, 9));
+        Due.due("remove from a file", -5, () -> pool.remove(3, 1));
+        Due.due("a directory onto a file", -5, () -> pool.move(0, 1, 0, 3));
+        Due.refused("a file onto a directory", -5, pool, () -> pool.move(0, 3, 0, 1));
+    }
+
+    private static void outOfBounds() {
+        DiskPool pool = small();
+        for (int offset : new int[] {-1, 11, Integer.MIN_VALUE, Integer.MAX_VALUE}) {
+            Due.due("write at " + offset, -8, () -> pool.write(3, offset));
+        }
+        for (int size : new int[] {-1, 1035, Integer.MIN_VALUE, Integer.MAX_VALUE}) {
+            Due.due("cut to " + size, -8, () -> pool.cut(3, size));
+        }
+        Due.due("write at the end", 10, () -> pool.write(3, 10));
+        Due.due("cut to the most", 1034, () -> pool.cut(3, 1034));
+    }
+
+    private static void powerLostInACommit() {
+        DiskPool[] pools = new DiskPool[6];
+        for (int i = 0; i < 6; i++) {
+            pools[i] = Pools.brimful();
+            pools[i].lose(150);
+        }
+        Due.due("make", -9, () -> pools[0].make(0, 7, false));
+        Due.due("write", -9, () -> { pools[1].feed(1, 1); return pools[1].write(6, 0); });
+        Due.due("cut", -9, () -> pools[2].cut(6, 1));
+        Due.due("move", -9, () -> pools[3].move(1, 5, 1, 9));
+        Due.due("remove", -9, () -> pools[4].remove(1, 5));
+        Due.due("sync", -9, pools[5]::sync);
+        for (DiskPool pool : pools) {
+            Due.due("off", 0, () -> pool.look(0));
+            Due.due("opens", true, pool.open());
+            Due.due("what was there before", 320, () -> pool.node(5, 1));
+            Due.due("and nothing else", 2, () -> pool.find(1, 5));
+            Due.due("and nothing else", 0, () -> pool.node(6, 1) + pool.node(7, 0));
+        }
+    }
+
     private static void firstException() {
         DiskPool pool = new DiskPool(6, 3, 48);
         for (int i = 0; i < 64; i++) pool.feed(8, 0);
@@ -594,23 +740,32 @@ public final class FileTermsEdgesTest {
         Due.holds("they are just as many as its size needs", FileTermsEdgesTest::blocksForASize);
         Due.holds("the bytes behind its size in the last one are 0", FileTermsEdgesTest::bytesBehindTheSize);
         Due.holds("the others, and all of a free one, are 0", FileTermsEdgesTest::freeInodes);
+        Due.holds("of each extent its first block ... the others, ... are 0", FileTermsEdgesTest::extentsThatAreNone);
+        Due.holds("The blocks of its extents, one behind the other, hold its bytes", FileTermsEdgesTest::extentsInTurn);
         Due.holds("those below 59, those in extents; the others below L are FREE", FileTermsEdgesTest::firstAndLastBlock);
         Due.holds("byte b / 8 mod 64 of block 57 + b / 512", FileTermsEdgesTest::bothBlocksOfTheMap);
         Due.holds("the one right behind its last one, if ... it is free", FileTermsEdgesTest::takesRightBehind);
+        Due.holds("otherwise the least free one (perhaps that right behind), as an extent of its own", FileTermsEdgesTest::takesTheLeastFree);
         Due.holds("if there is that", FileTermsEdgesTest::takesAtTheEnd);
         Due.holds("and its extent has fewer than 255", FileTermsEdgesTest::fewerThan255);
         Due.holds("It cannot when there is none, or it would be a ninth extent", FileTermsEdgesTest::noNinthExtent);
         Due.holds("The block has 0s then", FileTermsEdgesTest::takenBlocksAre0);
-        Due.holds("without one the directory grows by a block (of 0s)", FileTermsEdgesTest::takenByADirectory);
+        Due.holds("TO TAKE one block more for an inode: ... The block has 0s then", FileTermsEdgesTest::takenByADirectory);
         Due.holds("Blocks are given back from the end on", FileTermsEdgesTest::givenBackFromTheEnd);
         Due.holds("a NAME (1 .. 65535, two bytes, lowest first; 0 for an empty one)", FileTermsEdgesTest::namesOfTwoBytes);
         Due.holds("All bytes of an empty one are 0", FileTermsEdgesTest::emptyEntries);
         Due.holds("A new entry comes into the first empty one; without one the directory grows by a block", FileTermsEdgesTest::directoriesGrow);
+        Due.holds("Its size is a multiple of 64", FileTermsEdgesTest::sizesOfDirectories);
+        Due.holds("Inode 0 is the ROOT, a directory, of size 0 at first. It has no entry", FileTermsEdgesTest::root);
         Due.holds("A block is CHANGED if it is not below 25, taken, and its bytes ... differ", FileTermsEdgesTest::changedBlocks);
         Due.holds("OPERATIONS change all or nothing", FileTermsEdgesTest::allOrNothing);
         Due.holds("and leave more than 24 blocks changed commits first", FileTermsEdgesTest::moreThan24);
         Due.holds("One that would answer 0 or more", FileTermsEdgesTest::belowZeroCommitsNothing);
         Due.holds("if power is lost then, it is not done", FileTermsEdgesTest::powerLostFirst);
+        Due.holds("-1 there is no such inode (it is free) or entry", FileTermsEdgesTest::noInodeOrEntry);
+        Due.holds("-5 the inode is of another kind", FileTermsEdgesTest::otherKinds);
+        Due.holds("-8 a place or size is out of bounds", FileTermsEdgesTest::outOfBounds);
+        Due.holds("-9 power was lost, in a commit: the pool is off", FileTermsEdgesTest::powerLostInACommit);
         Due.holds("Of several exceptions the first one told is thrown", FileTermsEdgesTest::firstException);
         Due.holds("a call that throws changes nothing", FileTermsEdgesTest::throwingChangesNothing);
         Due.holds("The TAPE has at most 512 bytes, none at first (it stays while it is off)", FileTermsEdgesTest::tape);

@@ -231,6 +231,19 @@ public final class RackEdgesTest {
         Due.due("each is spoilt", 5, () -> pool.look(3));
     }
 
+    /** What is xored in one call is taken back byte by byte. */
+    private static void lowestFirst() {
+        DiskPool pool = Pools.committed();
+        for (int at : new int[] {0, 3, 7, 62}) {
+            Due.due("eight bytes at " + at, true, pool.spoil(0, 0, at, 8, 0x1122334455667788L));
+            for (int i = 0; i < 8; i++) {
+                Due.due("spoilt", 1, () -> pool.look(3));
+                Due.due("byte " + i, true, pool.spoil(0, 0, at + i, 1, 0x88 - 0x11 * i));
+            }
+            Due.due("valid", 0, () -> pool.look(3));
+        }
+    }
+
     private static void masksOf0() {
         DiskPool pool = Pools.committed();
         Due.refused("0", Due.ARGUMENT, pool, () -> Due.one(pool.spoil(0, 0, 0, 8, 0)));
@@ -448,6 +461,15 @@ public final class RackEdgesTest {
         Due.looks("opened", pool, 1, 64, 1, 1, 97, 96, 0, 48, 0, 3, 6, 5, 3, 35, 62, 0, 0, 0, 1, 0);
     }
 
+    private static void nextWhileOff() {
+        DiskPool pool = Pools.committed();
+        for (int s = 0; s < 3; s++) pool.scrub();
+        pool.off();
+        Due.due("as it was", 3, () -> pool.look(8));
+        pool.open();
+        Due.due("opened", 0, () -> pool.look(8));
+    }
+
     private static void operationsSinceTheCommit() {
         DiskPool pool = new DiskPool(6, 3, 48);
         pool.make(0, 1, false);
@@ -523,6 +545,7 @@ public final class RackEdgesTest {
         Due.holds("or that is refused", RackEdgesTest::failingToTheLast);
         Due.holds("A failed disk is replaced: true; false when it is live. Throws IllegalArgumentException when there is none.", RackEdgesTest::replacing);
         Due.holds("when there is no such disk, offset is not 0 .. ROWS - 1, n not 1 .. 8, at not 0 .. 70 - n", RackEdgesTest::spoilingNoSuchBytes);
+        Due.holds("The n lowest bytes of mask, lowest first, are xored to those of a cell from place at on", RackEdgesTest::lowestFirst);
         Due.holds("or the n bytes of mask are all 0", RackEdgesTest::masksOf0);
         Due.holds("false when it is off, the disk is failed, the cell is no place", RackEdgesTest::spoilingNoPlace);
         Due.holds("that is refused", RackEdgesTest::spoilingTwoOfAStripe);
@@ -530,14 +553,15 @@ public final class RackEdgesTest {
         Due.holds("than were written last", RackEdgesTest::writtenLast);
         Due.holds("A step of rebuilding: 1; 0 when there is nothing to do; -9 when power was lost.", RackEdgesTest::rebuilding);
         Due.holds("A step of copying back: 1; 0 when there is nothing to do; -9 when power was lost.", RackEdgesTest::copyingBack);
-        Due.holds("-9 when power was lost (between its two writes)", RackEdgesTest::copyingBackHalf);
+        Due.holds("A step of copying back: ... -9 when power was lost", RackEdgesTest::copyingBackHalf);
         Due.holds("A step of scrubbing: 1 when a cell was written anew; 0 when not; -9 when power was lost.", RackEdgesTest::scrubbing);
         Due.holds("1 when a cell was written anew; 0 when not", RackEdgesTest::scrubbingWithLost);
         Due.holds("Throws IllegalArgumentException when there is no such row, or the position is none of a stripe.", RackEdgesTest::noSuchPlace);
         Due.holds("-1 when it is lost (while it is off, of that which opening would find)", RackEdgesTest::placesWhileOff);
         Due.holds("Throws IllegalArgumentException for another what", RackEdgesTest::noSuchLook);
         Due.holds("(While it is off, 2 to 4 are by the places that opening would find.) And while it is on (-1 while it is off)", RackEdgesTest::looksWhileOff);
-        Due.holds("16 operations that answered 0 or more, one of nothing too, since the latest commit (a sync of nothing is one, too) or opening", RackEdgesTest::operationsSinceTheCommit);
+        Due.holds("8 NEXT (while it is off as it was)", RackEdgesTest::nextWhileOff);
+        Due.holds("16 operations that answered 0 or more, one of nothing too ... since the latest commit (a sync of nothing is one, too) or opening", RackEdgesTest::operationsSinceTheCommit);
         Due.holds("17 commits that operations made first (and that were done), since the opening", RackEdgesTest::commitsMadeFirst);
         Due.holds("(none, ever)", RackEdgesTest::noneStrayed);
         Due.end();

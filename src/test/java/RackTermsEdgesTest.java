@@ -14,6 +14,28 @@ public final class RackTermsEdgesTest {
         }
     }
 
+    private static void seventyBytes() {
+        for (int at = 0; at < 70; at++) {
+            DiskPool pool = new DiskPool(6, 3, 48);
+            Due.due("byte " + at, true, pool.spoil(0, 0, at, 1, 1));
+            Due.due("spoilt by byte " + at, 1, () -> pool.look(3));
+        }
+        DiskPool pool = new DiskPool(6, 3, 48);
+        Due.refused("no byte behind them", Due.ARGUMENT, pool, () -> Due.one(pool.spoil(0, 0, 70, 1, 1)));
+    }
+
+    private static void blankTillWritten() {
+        DiskPool pool = Pools.committed();
+        pool.fail(0);
+        pool.replace(0);
+        Due.due("blank", false, pool.spoil(0, 0, 0, 1, 1));
+        Due.due("written", 1, pool::copyBack);
+        Due.due("not blank", true, pool.spoil(0, 0, 0, 1, 1));
+        Due.due("so the next one is written", 1, pool::copyBack);
+        Due.due("not the same once more", 1, () -> pool.look(3));
+        Due.due("all the others", 22, () -> Pools.steps(pool::copyBack));
+    }
+
     private static void failedDisk() {
         DiskPool pool = Pools.withFile();
         pool.lose(2);
@@ -270,6 +292,19 @@ public final class RackTermsEdgesTest {
         }
     }
 
+    /** The spare of row 0 stands for position 0 alone: another one that is lost is not found there. */
+    private static void tagsOfOnePosition() {
+        DiskPool pool = Pools.committed();
+        pool.fail(0);
+        Pools.steps(pool::rebuild);
+        pool.fail(1);
+        pool.off();
+        Due.due("position 0", 3, () -> pool.place(0, 0));
+        Due.due("position 1", -1, () -> pool.place(0, 1));
+        Due.due("position 2", 2, () -> pool.place(0, 2));
+        Due.due("lost are the homes and the spares of disk 1", 24 + 8, () -> pool.look(2));
+    }
+
     /** Power goes at parity's write for the volume's last block: opening finds its stripe by the log. */
     private static void tagsOfLogs() {
         for (int[] s : new int[][] {{6, 3, 48}, {9, 8, 64}, {16, 3, 64}, {16, 5, 64}}) {
@@ -460,14 +495,15 @@ public final class RackTermsEdgesTest {
 
     /** The log of block 1 tells of stripe 0: column 1 on disk 1, parity on disk 2. */
     private static void logsAtAnOpening() {
-        int[] done = {0, 1, 2, 3, 4};
-        int[] more = {0, 2, 2, 2, 0};
-        for (int n = 1; n <= 5; n++) {
+        // The logs of the disks 2, 5, 5, 4, 2, 2, 0, 3, 2 and 2 are written in turn, for columns 0 and 1.
+        for (int n = 1; n <= 40; n++) {
             DiskPool pool = Pools.withFile();
             pool.lose(n);
             pool.sync();
             pool.open();
-            int want = done[n - 1] + more[n - 1];
+            int log = (n - 1) % 4 == 0 ? 0 : 2;
+            int journal = n > 4 * 4 + 2 && n <= 9 * 4 + 2 ? 5 * 4 : 0;
+            int want = n - 1 + log + journal;
             Due.due("lost at write " + n, want, () -> pool.look(1));
             Pools.reopen(pool);
             Due.due("once", want, () -> pool.look(1));
@@ -521,6 +557,8 @@ public final class RackTermsEdgesTest {
         pool.lose(2);
         Due.due("the spare is left", -9, pool::copyBack);
         int writes = pool.look(1);
+        pool.lose(1);
+        Due.due("power is lost at that", false, pool.open());
         Due.due("opens", true, pool.open());
         Due.due("it becomes 0s", writes + 1, () -> pool.look(1));
         Pools.reopen(pool);
@@ -703,6 +741,9 @@ public final class RackTermsEdgesTest {
         Due.due("the spoilt one once more", true, spoilt.spoil(0, 0, 9, 1, 1));
         Due.due("a disk beside the stripe", true, spoilt.fail(3));
         Due.due("none is lost of it", 1, () -> spoilt.look(3));
+        DiskPool first = Pools.committed();
+        first.spoil(1, 0, 0, 1, 1);
+        Due.refused("refused for the first cell of all", 0, first, () -> Due.one(first.fail(0)));
         DiskPool itself = Pools.committed();
         itself.spoil(0, 0, 0, 1, 1);
         Due.due("the spoilt one lost", true, itself.fail(0));
@@ -750,6 +791,8 @@ public final class RackTermsEdgesTest {
 
     public static void main(String[] args) {
         Due.holds("THE RACK has DISKS d, 6 .. 16 of them, ... OFFSETS 0 .. ROWS (ROWS 48 .. 64)", RackTermsEdgesTest::disksAndRows);
+        Due.holds("A cell has 64 bytes, a TAG (two bytes, lowest first) and a CHECK (four bytes, lowest first): 70 bytes", RackTermsEdgesTest::seventyBytes);
+        Due.holds("It is BLANK till it is WRITTEN", RackTermsEdgesTest::blankTillWritten);
         Due.holds("a disk that is failed has no cells", RackTermsEdgesTest::failedDisk);
         Due.holds("one that is replaced is live, and all its cells are blank", RackTermsEdgesTest::replacedDisk);
         Due.holds("CHECK of the 66 bytes before", RackTermsEdgesTest::checkOfAllBytes);
@@ -763,6 +806,7 @@ public final class RackTermsEdgesTest {
         Due.holds("block b is column b mod (k - 1) of stripe b / (k - 1)", RackTermsEdgesTest::blocks);
         Due.holds("The cells at the offset ROWS are the disks' LOGS", RackTermsEdgesTest::logs);
         Due.holds("in a spare 0, or p + 1 of the position it stands for", RackTermsEdgesTest::tagsOfSpares);
+        Due.holds("p + 1 of the position it stands for", RackTermsEdgesTest::tagsOfOnePosition);
         Due.holds("in a log 0, or 1 + 8 * s + j", RackTermsEdgesTest::tagsOfLogs);
         Due.holds("what fails is lost from then on, also when its disk is replaced", RackTermsEdgesTest::lostTillRebuilt);
         Due.holds("A spare is FREE if it is no place (blank or not)", RackTermsEdgesTest::freeSpares);
