@@ -322,6 +322,21 @@ public final class RackEdgesTest {
         Due.due("valid", 0, () -> pool.look(3));
     }
 
+    /** The cells of one disk in three rows: two are mended, the last one still knows its own bytes. */
+    private static void writtenLastBesideOthers() {
+        DiskPool pool = new DiskPool(6, 5, 48);
+        for (int row = 0; row < 3; row++) Due.due("row " + row, true, pool.spoil(0, row, 0, 8, 0x1111111111111111L));
+        for (int row = 0; row < 3; row++) Due.due("row " + row, true, pool.spoil(0, row, 62, 8, 0x2222222222222222L));
+        pool.off();
+        pool.open();
+        pool.scrub();
+        Due.due("a half of the last one back", true, pool.spoil(0, 2, 62, 8, 0x2222222222222222L));
+        Due.due("the middle one", 1, pool::scrub);
+        Due.due("its other half", true, pool.spoil(0, 2, 0, 8, 0x1111111111111111L));
+        Due.due("it is valid", 0, () -> pool.look(3));
+        Due.due("and needs no mending", 0, pool::scrub);
+    }
+
     // Promises 17 to 19
 
     private static void rebuilding() {
@@ -551,6 +566,7 @@ public final class RackEdgesTest {
         Due.holds("that is refused", RackEdgesTest::spoilingTwoOfAStripe);
         Due.holds("or the cell would be valid then with other bytes (of all 70)", RackEdgesTest::validWithOtherBytes);
         Due.holds("than were written last", RackEdgesTest::writtenLast);
+        Due.holds("with other bytes (of all 70) than were written last", RackEdgesTest::writtenLastBesideOthers);
         Due.holds("A step of rebuilding: 1; 0 when there is nothing to do; -9 when power was lost.", RackEdgesTest::rebuilding);
         Due.holds("A step of copying back: 1; 0 when there is nothing to do; -9 when power was lost.", RackEdgesTest::copyingBack);
         Due.holds("A step of copying back: ... -9 when power was lost", RackEdgesTest::copyingBackHalf);
