@@ -165,9 +165,10 @@ public final class FaceTest {
         Random random = new Random(22);
         List<Method> methods = new ArrayList<>();
         for (Method method : DiskPool.class.getDeclaredMethods()) if (!isHidden(method)) methods.add(method);
-        for (int run = 0; run < 300; run++) {
+        for (int run = 0; run < 900; run++) {
             DiskPool pool = new DiskPool(INTS[random.nextInt(INTS.length)], random.nextInt(12), random.nextInt(80));
-            for (int call = 0; call < 512; call++) {
+            // At most three calls each time, so no more than 512 in all.
+            for (int i = 0; i < 170; i++) {
                 // It is opened ever again, so that not most of the calls find it off.
                 if (pool.look(0) == 0 && random.nextInt(3) == 0) pool.open();
                 Method method = methods.get(random.nextInt(methods.size()));

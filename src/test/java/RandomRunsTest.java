@@ -1,9 +1,14 @@
 import java.util.NoSuchElementException;
 import java.util.Random;
 
-/** Long random runs of calls, each answered by DiskPool as by PlainPool, its plain twin. */
+/**
+ * Random runs of calls, each answered by DiskPool as by PlainPool, its plain twin. A run ends with its
+ * 512th call, as the document leaves free what later ones answer; a third argument lets it be longer.
+ */
 public final class RandomRunsTest {
     interface Call { long of(); }
+
+    private static final int MOST_CALLS = 512;
 
     private final Random random;
     private final DiskPool pool;
@@ -11,10 +16,13 @@ public final class RandomRunsTest {
     private final StringBuilder told = new StringBuilder();
     private final int disks, width, rows;
     private final int mood;
+    private final int mostCalls;
+    private int calls;
     private boolean wrong;
 
-    RandomRunsTest(long seed) {
+    RandomRunsTest(long seed, int mostCalls) {
         random = new Random(seed);
+        this.mostCalls = mostCalls;
         disks = random.nextInt(30) == 0 ? random.nextInt(40) - 10 : 6 + random.nextInt(11);
         width = random.nextInt(30) == 0 ? random.nextInt(20) - 5 : 3 + random.nextInt(6);
         rows = random.nextInt(30) == 0 ? random.nextInt(100) : 48 + random.nextInt(17);
@@ -32,7 +40,10 @@ public final class RandomRunsTest {
         }
     }
 
+    /** The answer; an empty text when the run has come to its end. */
     private String same(String name, Call a, Call b) {
+        if (calls >= mostCalls || wrong) return "";
+        calls++;
         String got = answer(a);
         String due = answer(b);
         told.append(name).append(" = ").append(got).append('\n');
@@ -89,13 +100,8 @@ public final class RandomRunsTest {
                 same("find " + d + " " + m, () -> pool.find(d, m), () -> plain.find(d, m));
                 break;
             case 4: case 5: case 6:
-                for (int z = random.nextInt(random.nextInt(6) == 0 ? 130 : 12); z > 0; z--) {
-                    int n = random.nextInt(40) == 0 ? random.nextInt(12) - 1 : 1 + random.nextInt(8);
-                    long v = random.nextInt(4) == 0 ? 0 : random.nextLong();
-                    same("feed " + n + " " + v, () -> pool.feed(n, v), () -> plain.feed(n, v));
-                }
-                int from = offset(i);
-                same("write " + i + " " + from, () -> pool.write(i, from), () -> plain.write(i, from));
+                if (random.nextInt(3) == 0) sprinkle(i);
+                else feedAndWrite(i, random.nextInt(random.nextInt(12) == 0 ? 80 : 5), offset(i));
                 break;
             case 7: case 8:
                 int size = size(i);
@@ -114,6 +120,21 @@ public final class RandomRunsTest {
         }
     }
 
+    private void feedAndWrite(int i, int feeds, int from) {
+        for (int z = feeds; z > 0; z--) {
+            int n = random.nextInt(60) == 0 ? random.nextInt(12) - 1 : 8 - random.nextInt(1 + random.nextInt(8));
+            long v = random.nextInt(4) == 0 ? 0 : random.nextLong();
+            same("feed " + n + " " + v, () -> pool.feed(n, v), () -> plain.feed(n, v));
+        }
+        same("write " + i + " " + from, () -> pool.write(i, from), () -> plain.write(i, from));
+    }
+
+    /** A few bytes over the edges of many blocks: by that many are changed in few calls. */
+    private void sprinkle(int i) {
+        int blocks = length(i) / 64;
+        for (int b = 1 + random.nextInt(3); b < blocks; b += 2 + random.nextInt(2)) feedAndWrite(i, 1, 64 * b - random.nextInt(9));
+    }
+
     private int length(int i) { return i >= 0 && i < 64 ? plain.nodes[i].bytes.length : 0; }
 
     private int offset(int i) {
@@ -125,12 +146,34 @@ public final class RandomRunsTest {
     private int size(int i) {
         int kind = random.nextInt(20);
         if (kind == 0) return new int[] {-1, length(i) + 1025, Integer.MAX_VALUE, Integer.MIN_VALUE}[random.nextInt(4)];
-        if (kind < 3) return length(i) + 1024;
+        if (kind < (mood == 3 ? 12 : 3)) return length(i) + 1024;
         return kind < 12 ? length(i) + random.nextInt(1025) : random.nextInt(length(i) + 1);
     }
 
+    private int disk() {
+        return random.nextInt(40) == 0 ? random.nextInt(30) - 7 : random.nextInt(plain.n);
+    }
+
+    /** Mostly one that is failed, if there is one. */
+    private int failedDisk() {
+        int disk = random.nextInt(plain.n);
+        for (int tries = 0; tries < plain.n && plain.live[disk]; tries++) disk = (disk + 1) % plain.n;
+        return random.nextInt(8) == 0 ? disk() : disk;
+    }
+
+    /** Steps of rebuilding or copying back, some or all of those that are to be done. */
+    private void steps(String name, Call a, Call b) {
+        int most = random.nextInt(3) == 0 ? 100 : random.nextInt(12);
+        for (int z = 0; z <= most; z++) if (!same(name, a, b).equals("1")) return;
+    }
+
+    private void replace() {
+        int d = failedDisk();
+        same("replace " + d, () -> one(pool.replace(d)), () -> one(plain.replace(d)));
+    }
+
     private void rackCall() {
-        int d = random.nextInt(40) == 0 ? random.nextInt(30) - 7 : random.nextInt(plain.n);
+        int d = disk();
         switch (random.nextInt(13)) {
             case 0:
                 int n = random.nextInt(10) == 0 ? random.nextInt(4) - 2 : 1 + random.nextInt(random.nextInt(2) == 0 ? 6 : 150);
@@ -143,19 +186,19 @@ public final class RandomRunsTest {
                 if (random.nextInt(mood == 0 ? 6 : 1) == 0) same("fail " + d, () -> one(pool.fail(d)), () -> one(plain.fail(d)));
                 break;
             case 4:
-                same("replace " + d, () -> one(pool.replace(d)), () -> one(plain.replace(d)));
+                replace();
                 break;
             case 5: case 6:
                 for (int z = random.nextInt(12); z >= 0; z--) spoil(random.nextInt(40) == 0 ? d : random.nextInt(plain.n));
                 break;
             case 7: case 8:
-                for (int z = random.nextInt(90); z >= 0; z--) same("rebuild", pool::rebuild, plain::rebuild);
+                steps("rebuild", pool::rebuild, plain::rebuild);
                 break;
             case 9: case 10:
-                for (int z = random.nextInt(90); z >= 0; z--) same("copyBack", pool::copyBack, plain::copyBack);
+                steps("copyBack", pool::copyBack, plain::copyBack);
                 break;
             case 11:
-                for (int z = random.nextInt(90); z >= 0; z--) same("scrub", pool::scrub, plain::scrub);
+                for (int z = random.nextInt(random.nextInt(4) == 0 ? 90 : 12); z >= 0; z--) same("scrub", pool::scrub, plain::scrub);
                 break;
             default:
                 same("sync", pool::sync, plain::sync);
@@ -173,7 +216,7 @@ public final class RandomRunsTest {
                 same("fail " + d, () -> one(pool.fail(d)), () -> one(plain.fail(d)));
                 break;
             case 3:
-                same("replace " + d, () -> one(pool.replace(d)), () -> one(plain.replace(d)));
+                replace();
                 break;
             default:
                 if (random.nextInt(4) == 0) lookAtAll();
@@ -214,8 +257,11 @@ public final class RandomRunsTest {
         return change & 0xFFFFFFFFL | (long) check << 32;
     }
 
+    /** How many whats node has for an inode. */
+    private int whats(int i) { return i >= 0 && i < 64 ? 3 + 2 * plain.nodes[i].extents.size() : 3; }
+
     private void lookCall() {
-        int i = inode(), what = random.nextInt(22) - 2;
+        int i = inode(), what = random.nextInt(whats(i) + 3) - 1;
         same("node " + i + " " + what, () -> pool.node(i, what), () -> plain.node(i, what));
         int r = random.nextInt(plain.rows + 2) - 1, p = random.nextInt(plain.n + 2) - 1;
         same("place " + r + " " + p, () -> pool.place(r, p), () -> plain.place(r, p));
@@ -228,29 +274,31 @@ public final class RandomRunsTest {
         }
     }
 
+    /** Inodes that are not free, from a random one on, and some places, as far as calls are left. */
     private void lookAtFiles() {
+        int first = random.nextInt(64);
         for (int i = 0; i < 64 && plain.on; i++) {
-            int node = i;
-            for (int w = 0; w < 20; w++) {
-                int what = w;
-                same("node " + i + " " + w, () -> pool.node(node, what), () -> plain.node(node, what));
-            }
-            for (int at = 0; at <= length(i); at += 8) {
-                int from = at;
-                same("read " + i + " " + at, () -> pool.read(node, from), () -> plain.read(node, from));
-            }
+            int inode = (first + i) % 64;
+            if (plain.nodes[inode].kind != 0 || random.nextInt(30) == 0) lookAtFile(inode);
         }
-        for (int r = 0; r < plain.rows; r++) {
-            for (int p = 0; p < plain.k * plain.groups; p++) {
-                int row = r, position = p;
-                same("place " + r + " " + p, () -> pool.place(row, position), () -> plain.place(row, position));
-            }
+        for (int i = 0; i < 20; i++) lookCall();
+    }
+
+    private void lookAtFile(int inode) {
+        for (int w = 0; w <= whats(inode); w++) {
+            int what = w;
+            same("node " + inode + " " + w, () -> pool.node(inode, what), () -> plain.node(inode, what));
+        }
+        for (int at = random.nextInt(64); at <= length(inode); at += 1 + random.nextInt(128)) {
+            int from = at;
+            same("read " + inode + " " + at, () -> pool.read(inode, from), () -> plain.read(inode, from));
         }
     }
 
-    private boolean run(int calls) {
+    private boolean run() {
         int rack = new int[] {1, 5, 1, 3}[mood];
-        for (int c = 0; c < calls && !wrong; c++) {
+        int part = mostCalls / 4 + random.nextInt(mostCalls * 3 / 4);
+        while (calls < part && !wrong) {
             int kind = random.nextInt(10);
             if (!plain.on) {
                 while (random.nextInt(2) == 0) offCall();
@@ -259,8 +307,7 @@ public final class RandomRunsTest {
             if (kind < rack) rackCall();
             else if (kind == 9) lookCall();
             else fileCall();
-            if (random.nextInt(8) == 0) lookAtAll();
-            if (random.nextInt(60) == 0) lookAtFiles();
+            if (random.nextInt(40) == 0) lookAtAll();
             if (random.nextInt(200) == 0) same("open", () -> one(pool.open()), () -> one(plain.open()));
         }
         lookAtAll();
@@ -269,18 +316,19 @@ public final class RandomRunsTest {
     }
 
     public static void main(String[] args) {
-        int runs = args.length > 0 ? Integer.parseInt(args[0]) : 300;
+        int runs = args.length > 0 ? Integer.parseInt(args[0]) : 3000;
         long base = args.length > 1 ? Long.parseLong(args[1]) : 0;
+        int mostCalls = args.length > 2 ? Integer.parseInt(args[2]) : MOST_CALLS;
         long calls = 0;
         for (long seed = base; seed < base + runs; seed++) {
-            RandomRunsTest test = new RandomRunsTest(seed);
-            if (!test.run(400)) {
+            RandomRunsTest test = new RandomRunsTest(seed, mostCalls);
+            if (!test.run()) {
                 String[] lines = test.told.toString().split("\n");
                 System.out.println("seed " + seed + ", " + lines[0]);
                 for (int i = Math.max(1, lines.length - 25); i < lines.length; i++) System.out.println(lines[i]);
                 System.exit(1);
             }
-            calls += test.told.chars().filter(c -> c == '\n').count();
+            calls += test.calls;
         }
         System.out.println(runs + " random runs, " + calls + " calls: all answers are as due");
     }
